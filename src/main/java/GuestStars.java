@@ -639,13 +639,10 @@ public final class GuestStars {
             return month % 2 == 1 ? 30 : 29;
         }
 
-        static int around(int x, int other) {
-            int far = Math.abs(x - other);
-            return Math.min(far, WIDTH - far);
-        }
-
         static int apart(int x, int y, int otherX, int otherY) {
-            return Math.max(around(x, otherX), Math.abs(y - otherY));
+            int across = Math.abs(x - otherX);
+            int shorter = Math.min(across, WIDTH - across);
+            return Math.max(shorter, Math.abs(y - otherY));
         }
 
         static int sunAt(int day) {
@@ -653,7 +650,7 @@ public final class GuestStars {
         }
 
         static boolean hides(int day, int x) {
-            return around(x, sunAt(day)) <= 10;
+            return apart(x, 0, sunAt(day), 0) <= 10;
         }
 
         static int monthsSeen(int x) {

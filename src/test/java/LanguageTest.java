@@ -1,0 +1,59 @@
+import java.lang.reflect.Field;
+import java.lang.reflect.Modifier;
+import java.nio.file.Files;
+import java.nio.file.Path;
+import java.util.List;
+import java.util.regex.Matcher;
+import java.util.regex.Pattern;
+
+/** The rules of LANGUAGE.md that can be seen from the lines of the class. */
+public final class LanguageTest {
+    private static final Checks checks = new Checks();
+    private static final String[] BANNED = {"->", "::", "finally", "synchronized", "\\bassert\\b", "protected", "Exact\\(",
+        "\\bthrows? new Runtime", "hashCode", "toString", "getMessage", "printStackTrace", "System\\.(?!arraycopy)",
+        "Math\\.(?!max|min|abs|floorMod|floorDiv)", "Integer\\.(?!MIN_VALUE|MAX_VALUE|bitCount)",
+        "Long\\.(?!MAX_VALUE)", "Arrays\\.(?!fill)", "\" *\\+|\\+ *\"", "^import (?!java\\.util\\.(Arrays|NoSuchElementException);)",
+        "catch \\((?!IllegalArgumentException )", "\\bstatic \\{", "[^\\x00-\\x7f]", "\\bdouble\\b", "\\bfloat\\b"};
+
+    public static void main(String[] args) throws Exception {
+        List<String> lines = Files.readAllLines(Path.of("src/main/java/GuestStars.java"));
+        int classes = 0;
+        int opened = -1;
+        for (int k = 0; k < lines.size(); k++) {
+            String line = lines.get(k);
+            String code = line.replaceAll("//.*|/\\*\\*.*", "");
+            for (String banned : BANNED) {
+                Matcher found = Pattern.compile(banned).matcher(code);
+                checks.due("line " + (k + 1) + " has " + banned, found.find(), false);
+            }
+            if (code.matches(".*\\bclass [A-Z].*")) {
+                classes++;
+                checks.due("line " + (k + 1) + ": a final class", code.matches("public final class.*|    private static final class.*"), true);
+            }
+            if (code.matches("    (    )?[a-zA-Z].*\\) (throws .*)?\\{")) {
+                opened = k;
+                checks.due("line " + (k + 1) + ": seven parameters", code.split(",").length <= 7, true);
+            }
+            if (code.matches("    (    )?\\}") && opened >= 0) {
+                checks.due("line " + (opened + 1) + ": some sixty lines", k - opened <= 60, true);
+                opened = -1;
+            }
+        }
+        checks.due("some twelve classes", classes <= 12, true);
+        fields(GuestStars.class);
+        for (Class<?> inside : GuestStars.class.getDeclaredClasses()) {
+            fields(inside);
+        }
+        checks.finish("LanguageTest");
+    }
+
+    private static void fields(Class<?> of) {
+        int fields = 0;
+        for (Field field : of.getDeclaredFields()) {
+            fields += Modifier.isStatic(field.getModifiers()) ? 0 : 1;
+            checks.due("a static field is final: " + field,
+                !Modifier.isStatic(field.getModifiers()) || Modifier.isFinal(field.getModifiers()), true);
+        }
+        checks.due("some twenty fields of " + of, fields <= 20, true);
+    }
+}
