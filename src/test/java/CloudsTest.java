@@ -161,6 +161,8 @@ public final class CloudsTest {
         checks.due("and the second", stars.draws(1, 2, 5), 2);
         checks.due("all", stars.draws(2147483647, 500, 60), 500);
         checks.due("another seed", stars.draws(2, 1, 0), 0);
+        // By seed 0 the first numbers are 0 (12345 by 65536) and 21468: the place (0, 48).
+        checks.due("seed 0", checks.told("cloud 0 48 plate 1 1 plate 2 2;").draws(0, 1, 0), 1);
         checks.due("none", stars.draws(1, 0, 0), -1);
         checks.due("too many", stars.draws(1, 501, 0), -1);
         checks.due("no such seed", stars.draws(-1, 1, 0), -1);

@@ -7,6 +7,7 @@ public final class EventsTest {
         events();
         slips();
         books();
+        longestChain();
         copies();
         worths();
         many();
@@ -89,6 +90,13 @@ public final class EventsTest {
             checks.due("no such", stars.from(5, b), -1);
             checks.due("no such", stars.from(-1, b), -1);
         }
+    }
+
+    private static void longestChain() {
+        GuestStars stars = checks.told("book a;book b from a;book c from b;book d from c;book e from d;book f from e;"
+            + "book g from f;book h from g;");
+        checks.due("straight on", stars.from(7, 0), 1);
+        checks.due("not back", stars.from(0, 7), 0);
     }
 
     private static void copies() {

@@ -146,6 +146,9 @@ public final class GuestsTest {
         checks.due("sort(0)", stars.sort(0), 0);
         checks.due("sort(1)", stars.sort(1), -1);
         checks.due("sort(2): what is below 0 isn't 0", stars.sort(2), 1);
+        GuestStars six = checks.told("rock 0 0;sort a 1 0;sort b 1 1/0;sort c 1 tail;sort d 1 moves;sort e 1 0;sort f 1 bright;");
+        checks.due("none of six", six.sort(0), -1);
+        checks.due("none of six", six.odds(0, 5, 1), 0);
         GuestStars none = checks.told("rock 0 0;");
         checks.due("no sorts", none.sort(0), -1);
         checks.due("no sorts", none.odds(0, 0, 0), -1);
@@ -173,6 +176,8 @@ public final class GuestsTest {
         checks.due("comparisons", value("1/0<>1/0"), -2);
         checks.due("10 to the 12", value("1000*1000*1000*1000/1000/1000/1000"), 1000);
         checks.due("above it", value("(1000*1000*1000*1000+1)*0"), -2);
+        checks.due("just so much by a sum", value("(999*1000*1000*1000+1000*1000*1000)*0"), 0);
+        checks.due("just so much below", value("((0-999)*1000*1000*1000-1000*1000*1000)*0"), 0);
         checks.due("less is fine", value("(1000*1000*1000*1000-1)*0"), 0);
         checks.due("below 0 by that", value("((0-1000)*1000*1000*1000)*0"), 0);
         checks.due("below 0 by more", value("((0-1000)*1000*1000*1000-1)*0"), -2);

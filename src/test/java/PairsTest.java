@@ -156,6 +156,7 @@ public final class PairsTest {
         checks.due("luck of 0 draws", stars.luck(0, 0), -1);
         checks.due("luck of 21 draws", stars.luck(0, 21), -1);
         checks.due("luck of seed -1", stars.luck(-1, 1), -1);
+        checks.due("luck of the first seed", stars.luck(0, 20), 20);
         checks.due("luck of the last seed", stars.luck(2147483647, 20), 20);
     }
 

@@ -179,6 +179,8 @@ public final class TextTest {
         fault("reign a 0 2;guest a 0 1 0;", 2, 20);
         fault("reign a 0 2;guest a 3 1 0;", 2, 20);
         fault("reign a 0 2;guest a 1 0 0;", 2, 22);
+        fault("reign a 0 2;guest a 1 13 0;", 2, 22);
+        fault("reign a 0 2;guest a 1 1 60;", 2, 24);
         fine("rock 1999 1999;rock 0 0;");
         fault("rock 2000 2000;", 2, 5);
         fault("rock 0 2000;", 2, 7);
@@ -338,6 +340,11 @@ public final class TextTest {
         fault(text + ";sort b 1 tail;sort c 1 tail", 2, text.length() + 24);
         fault(text + ";sort b 1 tail;sort c 1 ;", 1, text.length() + 24);
         fault(text + ";sort b 1 1<2<3;", 2, text.length() + 11);
+        String nots = "not ".repeat(63);
+        stars = checks.told("rock 0 0;sort a 1 ((((((((" + nots + "tail))))))));");
+        checks.due("knots", stars.count(6), 64);
+        checks.due("63 times not", stars.sort(0), 0);
+        fault("sort a 1 " + nots + "not 1;", 2, 9 + 64 * 4);
     }
 
     private static void details() {
