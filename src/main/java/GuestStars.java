@@ -33,6 +33,7 @@ public final class GuestStars {
     private static final int ALL_PLACES = 7200;
     private static final int WIDEST = 60;
     private static final int READINGS = 4;
+    private static final int TOLL_WITHOUT_NEAR = 20;
     private static final int OLDEST = 9999;
     private static final int TOP_NUMBER = 9999;
     private static final long TOP_VALUE = 1000000000000L;
@@ -194,8 +195,7 @@ public final class GuestStars {
         if (!isGuest(guest) || k < NONE) {
             return NONE;
         }
-        Guest one = told.guests[guest];
-        return k == NONE ? told.countYears(one) : told.yearWithRound(one, k);
+        return told.yearsWithRound(told.guests[guest], k);
     }
 
     public int place(int guest, int reading, int what) {
@@ -219,7 +219,7 @@ public final class GuestStars {
             return 0;
         }
         int byMonths = Integer.bitCount(told.monthsWithRound(one));
-        int byYears = told.countYears(one);
+        int byYears = told.yearsWithRound(one, NONE);
         int byRounds = Sky.monthLength(one.month);
         switch (what) {
             case 1:
@@ -1101,27 +1101,12 @@ public final class GuestStars {
             return bits;
         }
 
-        int countYears(Guest guest) {
-            if (guest.isRock()) {
-                return 0;
-            }
+        /** The k-th year of its reign that has a guest's round in its month; how many there are, by NONE. */
+        int yearsWithRound(Guest guest, int k) {
+            int first = guest.isRock() ? 0 : reigns.first[guest.reign];
+            int length = guest.isRock() ? 0 : reigns.second[guest.reign];
             int found = 0;
-            int first = reigns.first[guest.reign];
-            for (int year = first; year < first + reigns.second[guest.reign]; year++) {
-                if (dayIn(year, guest.month, guest.round) != NONE) {
-                    found++;
-                }
-            }
-            return found;
-        }
-
-        int yearWithRound(Guest guest, int k) {
-            if (guest.isRock()) {
-                return NONE;
-            }
-            int found = 0;
-            int first = reigns.first[guest.reign];
-            for (int year = first; year < first + reigns.second[guest.reign]; year++) {
+            for (int year = first; year < first + length; year++) {
                 if (dayIn(year, guest.month, guest.round) != NONE) {
                     if (found == k) {
                         return year;
@@ -1129,7 +1114,7 @@ public final class GuestStars {
                     found++;
                 }
             }
-            return NONE;
+            return k == NONE ? found : NONE;
         }
 
         int placeX(Guest guest, int reading) {
@@ -1191,7 +1176,7 @@ public final class GuestStars {
 
         int tollOf(Guest guest, Cloud cloud) {
             int reading = bestReading(guest, cloud);
-            int byPlace = reading == NONE ? 20 : readingToll(guest, cloud, reading);
+            int byPlace = reading == NONE ? TOLL_WITHOUT_NEAR : readingToll(guest, cloud, reading);
             return byPlace + cloud.yearsOutside(guest) / 10;
         }
 
@@ -1200,7 +1185,7 @@ public final class GuestStars {
             int bits = 0;
             for (int k = 0; k < cloudCount; k++) {
                 Cloud cloud = clouds[k];
-                int byPlace = guest.gate == NONE ? 20 : Sky.apart(x, y, cloud.x, cloud.y);
+                int byPlace = guest.gate == NONE ? TOLL_WITHOUT_NEAR : Sky.apart(x, y, cloud.x, cloud.y);
                 if (byPlace + cloud.yearsOutside(guest) / 10 <= limit) {
                     bits |= 1 << k;
                 }
