@@ -1,14 +1,32 @@
 /** What the tests share: feeding texts, and counting answers that are not the ones that are due. */
 final class Checks {
+    /** A call of the face with one of its numbers left open. */
+    interface Call {
+        long with(int number);
+    }
+
+    /** A question to an object. */
+    interface Question {
+        long of(GuestStars stars);
+    }
+
     private int wrong = 0;
     private int made = 0;
+    private int sentences = 0;
+    private String sentence = "";
+
+    /** The document's sentence that the checks from here on are about. */
+    void sentence(String words) {
+        sentences++;
+        sentence = words + ": ";
+    }
 
     void due(String call, long got, long want) {
         made++;
         if (got != want) {
             wrong++;
             if (wrong <= 40) {
-                System.out.println(call + " answered " + got + ", due is " + want);
+                System.out.println(sentence + call + " answered " + got + ", due is " + want);
             }
         }
     }
@@ -17,8 +35,34 @@ final class Checks {
         due(call, got ? 1 : 0, want ? 1 : 0);
     }
 
+    /** A call with each of the numbers that are no number of one of so many things. */
+    void refused(String call, int size, long answer, Call open) {
+        for (int number : new int[] {-1, -2, Integer.MIN_VALUE, size, size + 1, Integer.MAX_VALUE}) {
+            due(call + " with " + number, open.with(number), answer);
+        }
+    }
+
+    /** A call with each number below the least and above the greatest. */
+    void refusedOutside(String call, int least, int greatest, long answer, Call open) {
+        if (least > Integer.MIN_VALUE) {
+            due(call + " with " + (least - 1), open.with(least - 1), answer);
+            due(call + " with the least int", open.with(Integer.MIN_VALUE), answer);
+        }
+        if (greatest < Integer.MAX_VALUE) {
+            due(call + " with " + (greatest + 1), open.with(greatest + 1), answer);
+            due(call + " with the greatest int", open.with(Integer.MAX_VALUE), answer);
+        }
+    }
+
+    /** A call for each number from 0 on, with its answers. */
+    void row(String call, long[] want, Call open) {
+        for (int k = 0; k < want.length; k++) {
+            due(call + " with " + k, open.with(k), want[k]);
+        }
+    }
+
     void finish(String name) {
-        System.out.println(name + ": " + made + " checks, " + wrong + " wrong");
+        System.out.println(name + ": " + (sentences > 0 ? sentences + " sentences, " : "") + made + " checks, " + wrong + " wrong");
         if (wrong != 0) {
             System.exit(1);
         }
@@ -46,6 +90,23 @@ final class Checks {
         }
         due("text of " + text, lines, want);
         return stars;
+    }
+
+    /** A text that has no fault. */
+    void fine(String text) {
+        GuestStars stars = told(text);
+        due("fault of " + text, stars.fault(0), 0);
+        due("place of " + text, stars.fault(1), -1);
+    }
+
+    /** A text with a fault, the place of which is marked by a '|' (that isn't in the text). */
+    void fault(int kind, String marked) {
+        int place = marked.indexOf('|');
+        String text = marked.substring(0, place) + marked.substring(place + 1);
+        GuestStars stars = new GuestStars();
+        due("text of " + marked, tell(stars, text), -1);
+        due("fault of " + marked, stars.fault(0), kind);
+        due("place of " + marked, stars.fault(1), place);
     }
 
     private static int word(String text, int from) {
