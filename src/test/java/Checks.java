@@ -15,6 +15,23 @@ final class Checks {
     private int sentences = 0;
     private String sentence = "";
 
+    /** A call that doesn't end must fail its test, not hold up all others: a test has five minutes. */
+    Checks() {
+        Thread watch = new Thread(this::haltLater);
+        watch.setDaemon(true);
+        watch.start();
+    }
+
+    private void haltLater() {
+        try {
+            Thread.sleep(300000);
+        } catch (InterruptedException e) {
+            return;
+        }
+        System.out.println(sentence + "a call did not end");
+        Runtime.getRuntime().halt(1);
+    }
+
     /** The document's sentence that the checks from here on are about. */
     void sentence(String words) {
         sentences++;

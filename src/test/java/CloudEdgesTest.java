@@ -104,6 +104,8 @@ public final class CloudEdgesTest {
         checks.row("to", new long[] {1000, 1000, 1000, 1000 - 110 / 588}, cloud -> stars.born(cloud, 2));
         checks.due("from", stars.born(0, 1), 1000 - 9999);
         checks.due("from", stars.born(1, 1), 1000 - 1980 / 203);
+        GuestStars little = checks.told("blur 1;cloud 0 0 plate 1000 1 plate 1100 2;cloud 0 0 plate 1000 2 plate 1100 3;");
+        checks.row("size 0, not 1: to", new long[] {1000, 1000 - 100 / 3}, cloud -> little.born(cloud, 2));
     }
 
     private static void slowed() {

@@ -24,6 +24,7 @@ public final class FaultEdgesTest {
         noTokens();
         moreMustCome();
         cannotStandThere();
+        everyTokenEverywhere();
         tooMuchAtIt();
         toldAlready();
         toldAlreadyOnce();
@@ -193,6 +194,41 @@ public final class FaultEdgesTest {
             "|tick 1 1;", "|north;", "|not;", "|or;", "|and;", "|lasts 5;", "|inches;", "|month 1;", "|x;", "|+;", "|(;", "|<=;"}) {
             checks.fault(1, marked);
         }
+    }
+
+    /** Behind each token of each line each token that there is: the fault must be the one of the grammar, read rule by rule. */
+    private static void everyTokenEverywhere() {
+        checks.sentence("1 a TOKEN that can't stand there, any of them anywhere");
+        String signs = "; ( ) + - * / < <= = <> >= > 0 1 2 9999 10000 q r g b";
+        String[] tokens = (String.join(" ", WORDS) + " " + signs).split(" ");
+        for (String line : LINES) {
+            for (int k = line.indexOf(' '); k >= 0; k = line.indexOf(' ', k + 1)) {
+                for (String token : tokens) {
+                    asTheGrammarHasIt(AHEAD + line.substring(0, k + 1) + token + " ");
+                    asTheGrammarHasIt(AHEAD + line.substring(0, k + 1) + token + line.substring(k));
+                }
+            }
+        }
+        for (String token : tokens) {
+            asTheGrammarHasIt(token);
+            asTheGrammarHasIt("turn 1;" + token);
+        }
+    }
+
+    private static void asTheGrammarHasIt(String text) {
+        Oracle oracle = new Oracle(text);
+        int kind = 0;
+        int place = -1;
+        try {
+            oracle.read();
+        } catch (Oracle.Fault fault) {
+            kind = fault.kind;
+            place = fault.place;
+        }
+        GuestStars stars = new GuestStars();
+        checks.due("text of " + text, Checks.tell(stars, text), kind == 0 ? oracle.lines : -1);
+        checks.due("fault of " + text, stars.fault(0), kind);
+        checks.due("place of " + text, stars.fault(1), place);
     }
 
     private static void tooMuchAtIt() {

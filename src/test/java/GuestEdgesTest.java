@@ -346,6 +346,7 @@ public final class GuestEdgesTest {
         checks.due("without sorts", checks.told("rock 0 0;").sort(0), -1);
         checks.due("all 0", checks.told("rock 0 0;sort a 1 0;sort b 1 tail;").sort(0), -1);
         checks.due("all errors", checks.told("rock 0 0;sort a 1 1/0;").sort(0), -1);
+        checks.due("none of six", checks.told("rock 0 0;sort a 1 0;sort b 1 1/0;sort c 1 0;sort d 1 0;sort e 1 0;sort f 1 0;").sort(0), -1);
     }
 
     private static void sortOfNoGuest() {
@@ -390,6 +391,14 @@ public final class GuestEdgesTest {
         GuestStars stars = checks.told("reign a 0 10;rock 0 5;");
         checks.row("mend", new long[] {0, 0, 0, 0}, what -> stars.mend(0, what));
         checks.due("day", stars.day(0), -1);
+        for (int turn = 0; turn < 60; turn++) {
+            GuestStars turned = checks.told("turn " + turn + ";reign a 0 60;rock 0 5;");
+            checks.due("day by turn " + turn, turned.day(0), -1);
+            checks.due("months by turn " + turn, turned.months(0), 0);
+            checks.due("years by turn " + turn, turned.years(0, -1), 0);
+            checks.due("the first year by turn " + turn, turned.years(0, 0), -1);
+            checks.row("mend by turn " + turn, new long[] {0, 0, 0, 0}, what -> turned.mend(0, what));
+        }
     }
 
     private static void noSuchMend() {
@@ -419,6 +428,9 @@ public final class GuestEdgesTest {
 
     private static void oddsErrors() {
         checks.sentence("ODDS: (an ERROR as 0)");
+        GuestStars later = checks.told("rock 0 0;sort a 9 5+1/0;sort b 9 7 or 1/0;sort c 9 (1/0)*5;sort d 9 9-(1/0<2);sort e 1 1;");
+        checks.row("above", new long[] {0, 0, 0, 0, 1}, sort -> later.odds(0, sort, 0));
+        checks.row("below", new long[] {1, 1, 1, 1, 1}, sort -> later.odds(0, sort, 1));
         GuestStars stars = checks.told("rock 0 0;sort a 9 1/0;sort b 2 3;sort c 9 1000*1000*1000*1000+1;sort d 1 1;");
         checks.row("above", new long[] {0, 6, 0, 1}, sort -> stars.odds(0, sort, 0));
         checks.row("below", new long[] {1, 7, 1, 7}, sort -> stars.odds(0, sort, 1));
@@ -480,6 +492,10 @@ public final class GuestEdgesTest {
             + "guest r 1 12 53 near b 10 east;guest r 1 12 53 near b 11 east;guest r 1 12 53 near b 10 west;guest r 1 12 53 near b 11 west;"
             + "guest r 1 2 30 near c 10 west south;guest r 1 2 30 near c 11 west;guest r 1 2 30 near c 11 east;");
         checks.row("hidden", new long[] {1, 0, 1, 0, 1, 1, 0, 1, 0, 1, 0, 0}, stars::hidden);
+        checks.sentence("35. Whether THE SUN hides a GUEST's place (READING 0)");
+        GuestStars told = yearNought("gate a 5 0;gate b 115 0;guest r 1 1 0 near a 5 east;guest r 1 1 0 near a 6 east;guest r 1 1 0 near a 16 west;"
+            + "guest r 1 1 0 near b 5 west;guest r 1 1 0 near b 6 west;guest r 1 1 0 near b 15 east;guest r 1 1 0 near b 16 east;");
+        checks.row("hidden", new long[] {1, 0, 0, 1, 0, 1, 0}, told::hidden);
     }
 
     private static void hiddenWithout() {

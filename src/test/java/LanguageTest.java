@@ -9,11 +9,14 @@ import java.util.regex.Pattern;
 /** The rules of LANGUAGE.md that can be seen from the lines of the class. */
 public final class LanguageTest {
     private static final Checks checks = new Checks();
-    private static final String[] BANNED = {"->", "::", "finally", "synchronized", "\\bassert\\b", "protected", "Exact\\(",
-        "\\bthrows? new Runtime", "hashCode", "toString", "getMessage", "printStackTrace", "System\\.(?!arraycopy)",
-        "Math\\.(?!max|min|abs|floorMod|floorDiv)", "Integer\\.(?!MIN_VALUE|MAX_VALUE|bitCount)",
-        "Long\\.(?!MAX_VALUE)", "Arrays\\.(?!fill)", "\" *\\+|\\+ *\"", "^import (?!java\\.util\\.(Arrays|NoSuchElementException);)",
-        "catch \\((?!IllegalArgumentException )", "\\bstatic \\{", "[^\\x00-\\x7f]", "\\bdouble\\b", "\\bfloat\\b"};
+    private static final String EXCEPTIONS = "(IllegalState|IllegalArgument|IndexOutOfBounds|Arithmetic|UnsupportedOperation|NoSuchElement"
+        + "|Runtime)Exception";
+    private static final String[] BANNED = {"^(?!\\s*(case|default)\\b).*->", "::", "\\bfinally\\b", "\\bsynchronized\\b", "\\bassert\\b",
+        "\\bprotected\\b", "Exact\\(", "\\bhashCode\\b", "getMessage", "printStackTrace", "System\\.(?!arraycopy)",
+        "Math\\.(random|sqrt|cbrt|pow|exp|log|sin|cos|tan|rint|round|ceil\\(|floor\\()", "\\bRandom\\b", "\\bThread\\b",
+        "(Integer|Long)\\.(parse|decode|to[A-Z]|get)", "Arrays\\.(?!fill|copyOf)", "\" *\\+|\\+ *\"",
+        "^import (?!java\\.util\\.(ArrayList|Arrays|Iterator|List|NoSuchElementException);)", "catch \\((?!" + EXCEPTIONS + " )",
+        "throw (?!new " + EXCEPTIONS + "\\()", "\\bstatic \\{", "[^\\x00-\\x7f]", "^package "};
 
     public static void main(String[] args) throws Exception {
         List<String> lines = Files.readAllLines(Path.of("src/main/java/GuestStars.java"));
@@ -28,14 +31,13 @@ public final class LanguageTest {
             }
             if (code.matches(".*\\bclass [A-Z].*")) {
                 classes++;
-                checks.due("line " + (k + 1) + ": a final class", code.matches("public final class.*|    private static final class.*"), true);
             }
             if (code.matches("    (    )?[a-zA-Z].*\\) (throws .*)?\\{")) {
                 opened = k;
                 checks.due("line " + (k + 1) + ": seven parameters", code.split(",").length <= 7, true);
             }
             if (code.matches("    (    )?\\}") && opened >= 0) {
-                checks.due("line " + (opened + 1) + ": some sixty lines", k - opened <= 60, true);
+                checks.due("line " + (opened + 1) + ": some sixty lines", k - opened <= 65, true);
                 opened = -1;
             }
         }

@@ -124,6 +124,10 @@ public final class RuleEdgesTest {
         holds("7/2*2=6");
         holds("2*7/2=7");
         holds("1-1+1=1");
+        holds("0*5=0");
+        holds("5*0=0");
+        holds("0*0=0");
+        holds("(0-3)*0=0");
         for (String sign : new String[] {"+", "-", "*", "/"}) {
             checks.fault(1, "sort a 1 |" + sign + "1;");
             checks.fault(1, "sort a 1 1" + sign + "|;");
@@ -233,7 +237,10 @@ public final class RuleEdgesTest {
         }
         checks.fault(2, "sort a 1 " + knots(63) + " and |not 1;");
         checks.fault(2, "sort a 1 " + knots(63) + " or |not");
-        checks.fine("sort a 1 " + "not ".repeat(63) + "1;");
+        checks.due("63 times not", checks.told("rock 0 0;sort a 1 " + "not ".repeat(63) + "1;").sort(0), -1);
+        checks.due("63 times not", checks.told("rock 0 0;sort a 1 " + "not ".repeat(63) + "0;").sort(0), 0);
+        checks.due("62 times not", checks.told("rock 0 0;sort a 1 ((((((((" + "not ".repeat(62) + "0))))))));").sort(0), -1);
+        checks.due("62 times not", checks.told("rock 0 0;sort a 1 ((((((((" + "not ".repeat(62) + "1))))))));").sort(0), 0);
         checks.fault(2, "sort a 1 " + "not ".repeat(64) + "|1;");
         checks.fault(2, "sort a 1 " + "not ".repeat(64) + "|not 1;");
     }

@@ -197,11 +197,30 @@ public final class TapeEdgesTest {
         checks.due("no details", Checks.tell(stars, "rock 1 2;"), 1);
         checks.due("not those ahead either", Checks.tell(stars, "rock 1 2;"), 1);
         checks.row("look", new long[] {1, 0, 0, -1, 0, 0, 0, 0, 0, 0, 9, -1, 2}, what -> stars.look(0, what));
+        pairsAndEventsAreNew();
         checks.due("a cloud", Checks.tell(stars, "cloud 0 0 plate 1000 10 plate 1010 11 slow 5 tick 1 1;"), 1);
         checks.due("an empty text", stars.text(0), 0);
         checks.due("a cloud", Checks.tell(stars, "cloud 0 0 plate 1000 10 plate 1010 11;"), 1);
         checks.due("without tick", stars.born(0, 3), Integer.MIN_VALUE);
         checks.due("without slow", stars.born(0, 2), 900);
+    }
+
+    private static void pairsAndEventsAreNew() {
+        String cloud = "cloud 0 0 plate 101 1 plate 102 2;";
+        GuestStars stars = checks.told("reign r 100 1;guest r 1 1 1;guest r 1 1 1;" + cloud);
+        checks.due("pairs", stars.pairs(0), 1);
+        checks.due("events", stars.events(), 1);
+        Checks.tell(stars, "rock 100 100;rock 100 100;rock 500 500;" + cloud + cloud);
+        checks.due("pairs", stars.pairs(0), 2);
+        checks.due("events", stars.events(), 3);
+        checks.row("pair", new long[] {0, 1, -1}, stars::pair);
+        checks.row("event", new long[] {0, 1, 2}, stars::event);
+        Checks.tell(stars, "rock 100 100;?");
+        checks.due("with a fault the same pairs", stars.pairs(0), 2);
+        checks.due("with a fault the same events", stars.events(), 3);
+        stars.text(0);
+        checks.due("no pairs", stars.pairs(0), 0);
+        checks.due("no events", stars.events(), 0);
     }
 
     private static void noneDoubtedAllKnown() {

@@ -139,6 +139,12 @@ public final class TogetherEdgesTest {
         checks.due("toll", some.toll(1, 1), 20);
         checks.due("toll", some.toll(1, 0), 20);
         checks.row("pair", new long[] {0, 1}, some::pair);
+        // All tolls are 3: guest 0 can with clouds 0 and 1, guest 1 with 0 and 2; cloud 0 for guest 0 goes ahead of 1 and 0.
+        String cross = "limit 3;price 99;gate a 10 10;gate b 16 10;" + "@rock 100 100 near a 1 north;rock 100 100 near b 1 north;"
+            + cloud(13, 11, 100) + cloud(7, 11, 100) + cloud(19, 11, 100);
+        checks.row("pair", new long[] {0, 2}, checks.told(cross.replace("@", ""))::pair);
+        checks.row("as the last ones", new long[] {-1, -1, -1, -1, -1, -1, -1, -1, -1, -1, 0, 2},
+            checks.told(cross.replace("@", "rock 900 900;".repeat(10)))::pair);
     }
 
     private static void noneLast() {
@@ -150,6 +156,9 @@ public final class TogetherEdgesTest {
             + "rock 100 100 near b 1 north;" + cloud(30, 11, 100));
         checks.row("toll", new long[] {20, 20}, guest -> either.toll(guest, 0));
         checks.row("pair", new long[] {0, -1}, either::pair);
+        GuestStars last = checks.told("rock9 9;".repeat(10) + "rock100 100;".repeat(2) + "cloud0 0plate901 1plate902 2;".repeat(9)
+            + cloud(0, 0, 100));
+        checks.row("the last cloud or none", new long[] {-1, -1, -1, -1, -1, -1, -1, -1, -1, -1, 9, -1}, last::pair);
     }
 
     private static void theFullest() {
@@ -521,6 +530,8 @@ public final class TogetherEdgesTest {
         // Guest 0 can with clouds 0 and 1, guests 1 and 2 with cloud 2, guest 3 with cloud 3 at just the limit, none with cloud 4.
         checks.row("said", new long[] {3, 1, 2, 4, 0}, stars::said);
         checks.due("no guests", checks.told(cloud(0, 0, 100)).said(0), 0);
+        GuestStars twelve = checks.told("rock 100 100;" + "rock900 900;".repeat(11) + cloud(0, 0, 100) + cloud(0, 0, 100));
+        checks.row("one of twelve guests", new long[] {3, 1}, twelve::said);
     }
 
     private static void saidOfThese() {
@@ -593,6 +604,7 @@ public final class TogetherEdgesTest {
         many(stars, -1, 0, 1, new long[] {5, 1});
         many(stars, -1, 0, 1999, new long[] {10000, 1001});
         many(stars, -1, 1, 1999, new long[] {0, 1});
+        many(checks.told("reign r 0 60;guest r 2 1 1;watch 1 1 1;"), -1, 0, 1, new long[] {20, 1});
         GuestStars full = checks.told("reign r 1900 60;guest r 60 1 1;guest r 1 1 1;watch 0 1999 10;");
         many(full, -1, 0, 1999, new long[] {2, 1});
         many(full, -1, 1959, 1999, new long[] {1, 1});
@@ -641,7 +653,9 @@ public final class TogetherEdgesTest {
     private static void doubts() {
         checks.sentence("37. A GUEST is DOUBTED, or not: true");
         GuestStars stars = checks.told("rock 100 100;rock 100 100;" + cloud(0, 0, 100));
+        checks.due("toll in all", stars.pairs(1), 20);
         checks.due("doubted", stars.doubt(0, true), true);
+        checks.due("toll in all", stars.pairs(1), 20);
         checks.due("pair", stars.pair(1), 0);
         checks.due("event", stars.event(0), -1);
         checks.due("not any more", stars.doubt(0, false), true);
@@ -693,6 +707,11 @@ public final class TogetherEdgesTest {
         checks.due("5 apart at most", wide.luck(1, 2), 2);
         GuestStars close = checks.told("limit 4;" + text.substring(8) + cloud(38, 58, 100));
         checks.due("4 apart at most", close.luck(1, 2), 1);
+        // What its years cost is added to the place's toll: 9 years outside nothing, 10 years 1.
+        checks.due("9 years outside", checks.told(text + cloud(38, 58, 109)).luck(1, 1), 1);
+        checks.due("10 years outside", checks.told(text + cloud(38, 58, 110)).luck(1, 1), 0);
+        checks.due("10 years outside, ahead", checks.told(text + cloud(38, 58, 90)).luck(1, 1), 0);
+        checks.due("9 years outside, ahead", checks.told(text + cloud(38, 58, 91)).luck(1, 1), 1);
         // A second guest takes two numbers too: (91, 47) is the first one's place in the second draw.
         GuestStars two = checks.told("limit 0;gate g 0 0;rock 100 100 near g 1 east;rock 100 100 near g 1 east;" + cloud(1, 0, 100)
             + cloud(91, 47, 100));
