@@ -107,7 +107,6 @@ public final class GuestStars {
     private final Pairing pairing = new Pairing();
     private final Events joined = new Events();
     private Tale told = new Tale();
-    private Tale spare = new Tale();
     private int knownGuests;
     private int doubtedGuests;
     private boolean pairingStale = true;
@@ -137,13 +136,11 @@ public final class GuestStars {
         reader.tape.size = 0;
         int lines = NONE;
         try {
-            lines = reader.readLines(spare, n);
+            lines = reader.readLines(n);
         } catch (IllegalArgumentException fault) {
             return NONE;
         }
-        Tale before = told;
-        told = spare;
-        spare = before;
+        told = reader.giveFor(told);
         knownGuests = told.guestCount;
         doubtedGuests = 0;
         forgetReckoned();
@@ -1357,10 +1354,10 @@ public final class GuestStars {
         }
     }
 
-    /** Reads a text into a tale, up to its first fault, which ends the reading by an exception. */
+    /** Reads a text into a tale of its own, up to its first fault, which ends the reading by an exception. */
     private static final class Reader {
         private final int[] pending = new int[MOST_KNOTS + MOST_OPEN];
-        private Tale tale;
+        private Tale tale = new Tale();
         private int pendingSize;
         private int openCount;
         private int knots;
@@ -1371,8 +1368,7 @@ public final class GuestStars {
         int faultKind = 0;
         int faultPlace = NONE;
 
-        int readLines(Tale into, int n) {
-            tale = into;
+        int readLines(int n) {
             tale.clear();
             knots = 0;
             settingsTold = 0;
@@ -1389,6 +1385,13 @@ public final class GuestStars {
                 tale.clouds[k].reckonBirth(tale.blur);
             }
             return lines;
+        }
+
+        /** Gives the tale that was read for one that isn't needed any more, into which the next text is read. */
+        Tale giveFor(Tale old) {
+            Tale read = tale;
+            tale = old;
+            return read;
         }
 
         private void fail(int kind) {

@@ -1,3 +1,4 @@
+import java.lang.reflect.Array;
 import java.lang.reflect.Field;
 import java.lang.reflect.Modifier;
 import java.nio.file.Files;
@@ -46,6 +47,7 @@ public final class LanguageTest {
         for (Class<?> inside : GuestStars.class.getDeclaredClasses()) {
             fields(inside);
         }
+        references();
         checks.finish("LanguageTest");
     }
 
@@ -57,5 +59,38 @@ public final class LanguageTest {
                 !Modifier.isStatic(field.getModifiers()) || Modifier.isFinal(field.getModifiers()), true);
         }
         checks.due("some twenty fields of " + of, fields <= 20, true);
+    }
+
+    /** Rule 7: no reference is null at any time, so that none has to be looked at; new, behind a fault, behind a text. */
+    private static void references() throws Exception {
+        GuestStars stars = new GuestStars();
+        noneIsNull("new", stars, 0);
+        checks.due("a fault", Checks.tell(stars, "turn 60;"), -1);
+        noneIsNull("behind a fault", stars, 0);
+        checks.due("a text", Checks.tell(stars, "turn 59;"), 1);
+        noneIsNull("behind a text", stars, 0);
+    }
+
+    private static void noneIsNull(String when, Object object, int depth) throws Exception {
+        checks.due("the objects end", depth < 10, true);
+        if (object.getClass().isArray()) {
+            for (int k = 0; k < Array.getLength(object) && !object.getClass().getComponentType().isPrimitive(); k++) {
+                reached(when + ", element " + k, Array.get(object, k), depth);
+            }
+            return;
+        }
+        for (Field field : object.getClass().getDeclaredFields()) {
+            if (!Modifier.isStatic(field.getModifiers()) && !field.getType().isPrimitive()) {
+                field.setAccessible(true);
+                reached(when + ", " + field.getName(), field.get(object), depth);
+            }
+        }
+    }
+
+    private static void reached(String where, Object object, int depth) throws Exception {
+        checks.due("null: " + where, object == null, false);
+        if (object != null && depth < 10) {
+            noneIsNull(where, object, depth + 1);
+        }
     }
 }
